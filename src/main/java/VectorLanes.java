@@ -1,3 +1,7 @@
+/**
+ * A small language for rows of numbers. Tokens are checked as they are put, by the sorts of the expressions on
+ * the stack alone; a result is worked out only when it is asked for, since the inputs may change in between.
+ */
 public final class VectorLanes {
     private static final int CONST = 0;
     private static final int INPUT = 1;
@@ -346,7 +350,8 @@ public final class VectorLanes {
         }
     }
 
-    // Only for a whole program; its result is then at place 0 of the values.
+    // Only for a whole program: the checks made at token() are why no stack here runs over or dry.
+    // The result is then at place 0 of the values.
     private void workOut() {
         valueCount = 0;
         laneCount = 0;

@@ -88,7 +88,11 @@ final class MeaningTest {
         int[] row = {5, -6, 7};
         for (int place : new int[] {MIN, -99, -8, -1, 0, 1, 2, 3, 7, 8, 16, 99, MAX}) {
             VectorLanes x = new VectorLanes();
+            // A longer row asked for before must leave nothing behind beyond the end of a shorter one.
             Kinds.fill(x, 0, 1, 1, 1, 1, 1, 1, 1, 1);
+            Kinds.tokens(x, 0, Kinds.INPUT, 0);
+            Due.row("longer row", x, 1, 1, 1, 1, 1, 1, 1, 1);
+            x.clear();
             Kinds.fill(x, 0, row);
             Kinds.fill(x, 1, place);
             Kinds.tokens(x, 0, Kinds.INPUT, 0, Kinds.INPUT, 1, Kinds.SUM, 0, Kinds.AT, 0);
@@ -101,6 +105,9 @@ final class MeaningTest {
         x.clear();
         Kinds.tokens(x, 0, Kinds.INPUT, 0, Kinds.CONST, 7, Kinds.AT, 0);
         Due.number("AT 7 of 8", x, 8);
+        x.clear();
+        Kinds.tokens(x, 0, Kinds.INPUT, 0, Kinds.CONST, 8, Kinds.AT, 0);
+        Due.number("AT 8 of 8", x, 0);
     }
 
     private static void countedRows() {

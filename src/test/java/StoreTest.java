@@ -3,6 +3,7 @@ final class StoreTest {
     public static void main(String[] args) {
         numbers();
         rows();
+        fullRows();
         ownInput();
         refused();
         Due.end("StoreTest");
@@ -36,6 +37,22 @@ final class StoreTest {
         Due.is("store an empty row", x.store(1), 0);
         Due.inputRow("stored", x, 1);
         Due.row("program stays", x);
+    }
+
+    /** A full row stored beside others leaves these as they were. */
+    private static void fullRows() {
+        for (int i = 0; i < 3; i++) {
+            VectorLanes x = new VectorLanes();
+            for (int k = 0; k < 3; k++) {
+                Kinds.fill(x, k, 50 + k, 60 + k);
+            }
+            Kinds.tokens(x, 0, Kinds.CONST, 8, Kinds.UPTO, 0);
+            Due.is("store(" + i + ")", x.store(i), 8);
+            for (int k = 0; k < 3; k++) {
+                int[] want = k == i ? new int[] {0, 1, 2, 3, 4, 5, 6, 7} : new int[] {50 + k, 60 + k};
+                Due.inputRow("stored in " + i, x, k, want);
+            }
+        }
     }
 
     private static void ownInput() {
