@@ -2,15 +2,33 @@
 final class Due {
     private static int asked = 0;
     private static int wrong = 0;
+    private static String sentence = "";
+    private static int sentences = 0;
+    private static int askedBefore = 0;
 
     private Due() {
+    }
+
+    /** The answers that follow, up to the next sentence, are those that this sentence of the document asks for. */
+    static void sentence(String words) {
+        closeSentence();
+        sentence = words;
+        sentences++;
+        askedBefore = asked;
+    }
+
+    private static void closeSentence() {
+        if (sentences > 0 && asked == askedBefore) {
+            is("nothing was asked", 0, 1);
+        }
     }
 
     static void is(String call, int got, int want) {
         asked++;
         if (got != want) {
             wrong++;
-            System.out.println(call + " answered " + got + ", due is " + want);
+            String of = sentence.isEmpty() ? "" : "\"" + sentence + "\": ";
+            System.out.println(of + call + " answered " + got + ", due is " + want);
         }
     }
 
@@ -52,7 +70,9 @@ final class Due {
     }
 
     static void end(String test) {
-        System.out.println(test + ": " + asked + " answers, " + wrong + " not as due");
+        closeSentence();
+        String of = sentences == 0 ? "" : " to " + sentences + " sentences";
+        System.out.println(test + ": " + asked + " answers" + of + ", " + wrong + " not as due");
         if (wrong != 0 || asked == 0) {
             System.exit(1);
         }
