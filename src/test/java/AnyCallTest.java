@@ -1,3 +1,5 @@
+import java.util.Arrays;
+
 /** Rules 7 and 11 of LANGUAGE.md: whatever is called in whatever state, an answer comes, and always the same. */
 final class AnyCallTest {
     private static final int MIN = Integer.MIN_VALUE;
@@ -11,9 +13,7 @@ final class AnyCallTest {
     private static long state = 0;
 
     public static void main(String[] args) {
-        neverThrows();
-        neverThrowsInLongUse();
-        sameCallsSameAnswers();
+        Due.each(AnyCallTest::neverThrows, AnyCallTest::neverThrowsInLongUse, AnyCallTest::sameCallsSameAnswers);
         Due.end("AnyCallTest");
     }
 
@@ -105,7 +105,7 @@ final class AnyCallTest {
     private static void sameCallsSameAnswers() {
         Due.sentence("LANGUAGE.md, rule 11: the same calls always give the same answers");
         for (int run = 0; run < 200; run++) {
-            Due.is("run " + run + " twice", java.util.Arrays.equals(answers(run), answers(run)) ? 1 : 0, 1);
+            Due.is("run " + run + " twice", Arrays.equals(answers(run), answers(run)) ? 1 : 0, 1);
         }
     }
 }

@@ -17,6 +17,17 @@ final class Due {
         askedBefore = asked;
     }
 
+    /** Runs the test of each sentence, also after one that breaks off. */
+    static void each(Runnable... tests) {
+        for (Runnable test : tests) {
+            try {
+                test.run();
+            } catch (RuntimeException e) {
+                is("threw " + e + ":", 1, 0);
+            }
+        }
+    }
+
     private static void closeSentence() {
         if (sentences > 0 && asked == askedBefore) {
             is("nothing was asked", 0, 1);

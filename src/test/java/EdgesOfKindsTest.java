@@ -9,30 +9,15 @@ final class EdgesOfKindsTest {
     private static final String TWO_NUMBERS = "INPUT 0, CONST 0, AT, INPUT 0, CONST 1, AT, ";
 
     public static void main(String[] args) {
-        constants();
-        inputs();
-        additions();
-        differencesAndProducts();
-        divisionTowardsZero();
-        divisionByZero();
-        less();
-        equal();
-        pick();
-        lengths();
-        sums();
-        sumsOfNone();
-        most();
-        mostOfNone();
-        at();
-        atNoSuchPlace();
-        upTo();
-        upToBelowZero();
-        upToAboveEight();
-        joins();
-        joinsOfMoreThanEight();
-        turns();
-        scans();
-        sorts();
+        Due.each(
+            EdgesOfKindsTest::constants, EdgesOfKindsTest::inputs, EdgesOfKindsTest::additions,
+            EdgesOfKindsTest::differencesAndProducts, EdgesOfKindsTest::divisionTowardsZero,
+            EdgesOfKindsTest::divisionByZero, EdgesOfKindsTest::less, EdgesOfKindsTest::equal,
+            EdgesOfKindsTest::pick, EdgesOfKindsTest::lengths, EdgesOfKindsTest::sums, EdgesOfKindsTest::sumsOfNone,
+            EdgesOfKindsTest::most, EdgesOfKindsTest::mostOfNone, EdgesOfKindsTest::at,
+            EdgesOfKindsTest::atNoSuchPlace, EdgesOfKindsTest::upTo, EdgesOfKindsTest::upToBelowZero,
+            EdgesOfKindsTest::upToAboveEight, EdgesOfKindsTest::joins, EdgesOfKindsTest::joinsOfMoreThanEight,
+            EdgesOfKindsTest::turns, EdgesOfKindsTest::scans, EdgesOfKindsTest::sorts);
         Due.end("EdgesOfKindsTest");
     }
 
@@ -108,8 +93,8 @@ final class EdgesOfKindsTest {
         for (int n : new int[] {MIN, -1, 0, 1, 5, MAX}) {
             ofTwo("DIV", n, 0, 0);
         }
-        Due.row("within a block", Program.of("INPUT 0, EACH, CONST 6, ELEMENT 0, DIV, END", Program.row(0, 1, -1, 0, 4)),
-            0, 6, -6, 0, 1);
+        VectorLanes x = Program.of("INPUT 0, EACH, CONST 6, ELEMENT 0, DIV, END", Program.row(0, 1, -1, 0, 4));
+        Due.row("within a block", x, 0, 6, -6, 0, 1);
     }
 
     private static void less() {
@@ -136,6 +121,9 @@ final class EdgesOfKindsTest {
         ofTwo("EQUAL", MIN, MIN, 1);
         ofTwo("EQUAL", MAX, MIN, 0);
         ofTwo("EQUAL", 200, 200, 1);
+        ofTwo("EQUAL", 0, 256, 0);
+        ofTwo("EQUAL", 65536, 0, 0);
+        ofTwo("EQUAL", 0, MIN, 0);
     }
 
     private static void pick() {
@@ -171,11 +159,21 @@ final class EdgesOfKindsTest {
         ofRow("SUM", 128, 1, 0, 0, 0, 0, 0, 0, 127);
     }
 
+    /** A full row and then none in the same place, beside another one: nothing of the full row may be left. */
+    private static void emptied(String kind, int ofFull) {
+        VectorLanes x = Program.of("INPUT 0, " + kind, EIGHT);
+        Due.number(kind + " while full", x, ofFull);
+        Due.is("empty(0)", x.empty(0), 8);
+        Due.number(kind + " once emptied", x, 0);
+        VectorLanes y = Program.of("INPUT 0, LENGTH, INPUT 1, " + kind + ", ADD", EIGHT, NONE);
+        Due.number("8 and " + kind + " of none", y, 8);
+    }
+
     private static void sumsOfNone() {
         Due.sentence("SUM r: 0 if there are none");
         ofRow("SUM", 0);
         Due.number("none kept of full rows", Program.of("INPUT 0, KEEP, CONST 0, END, SUM", EIGHT), 0);
-        Due.number("after a full row stood there", Program.of("INPUT 0, SUM, CONST 0, MUL, UPTO, SUM", EIGHT), 0);
+        emptied("SUM", 6);
     }
 
     private static void most() {
@@ -195,7 +193,7 @@ final class EdgesOfKindsTest {
         Due.sentence("MOST r: 0 if there are none");
         ofRow("MOST", 0);
         Due.number("none kept of full rows", Program.of("INPUT 0, KEEP, CONST 0, END, MOST", EIGHT), 0);
-        Due.number("after a full row stood there", Program.of("INPUT 0, LENGTH, CONST 8, SUB, UPTO, MOST", EIGHT), 0);
+        emptied("MOST", 9);
     }
 
     private static void place(int place, int want, int... row) {

@@ -1,3 +1,5 @@
+import java.util.function.IntUnaryOperator;
+
 /** The sentences of "What it is" and "Terms" that name a bound or an order, but for the kinds and the blocks. */
 final class EdgesOfTermsTest {
     private static final int MIN = Integer.MIN_VALUE;
@@ -6,21 +8,13 @@ final class EdgesOfTermsTest {
     private static final String TWO_NUMBERS = "INPUT 0, CONST 0, AT, INPUT 0, CONST 1, AT, ";
 
     public static void main(String[] args) {
-        rowHasAtMostEight();
-        rowIsOfInts();
-        threeInputs();
-        sumsWrap();
-        differencesWrap();
-        productsWrap();
-        fortyTokens();
-        stackOfSix();
-        topIsTaken();
-        lastNamedIsTop();
-        whole();
-        refusedChangesNothing();
-        testsInTheirOrder();
-        questionsChangeNothing();
-        callsUpToTheLast();
+        Due.each(
+            EdgesOfTermsTest::rowHasAtMostEight, EdgesOfTermsTest::rowIsOfInts, EdgesOfTermsTest::threeInputs,
+            EdgesOfTermsTest::sumsWrap, EdgesOfTermsTest::differencesWrap, EdgesOfTermsTest::productsWrap,
+            EdgesOfTermsTest::fortyTokens, EdgesOfTermsTest::stackOfSix, EdgesOfTermsTest::topIsTaken,
+            EdgesOfTermsTest::lastNamedIsTop, EdgesOfTermsTest::whole, EdgesOfTermsTest::refusedChangesNothing,
+            EdgesOfTermsTest::testsInTheirOrder, EdgesOfTermsTest::questionsChangeNothing,
+            EdgesOfTermsTest::callsUpToTheLast);
         Due.end("EdgesOfTermsTest");
     }
 
@@ -101,7 +95,8 @@ final class EdgesOfTermsTest {
         Due.number("SUM up to MAX", Program.of("INPUT 0, SUM", Program.row(MAX - 2, 1, 1)), MAX);
         Due.number("SUM beyond MAX", Program.of("INPUT 0, SUM", Program.row(MAX - 2, 1, 1, 1)), MIN);
         Due.number("SUM below MIN", Program.of("INPUT 0, SUM", Program.row(MIN, -1)), MAX);
-        Due.row("SCAN there and back", Program.of("INPUT 0, SCAN", Program.row(MAX, 1, -1, 1, MIN)), MAX, MIN, MAX, MIN, 0);
+        VectorLanes x = Program.of("INPUT 0, SCAN", Program.row(MAX, 1, -1, 1, MIN));
+        Due.row("SCAN there and back", x, MAX, MIN, MAX, MIN, 0);
         Due.is("mixture() up to MAX", Program.of("INPUT 0", Program.row(MAX - 2, 1)).mixture(), MAX);
         Due.is("mixture() beyond MAX", Program.of("INPUT 0", Program.row(MAX - 1, 1)).mixture(), MIN);
     }
@@ -215,25 +210,35 @@ final class EdgesOfTermsTest {
     private static void refusedChangesNothing() {
         Due.sentence("A refused call changes nothing.");
         for (State state : State.ALL) {
-            int refused = 0;
-            for (int i : new int[] {MIN, -1, 0, 1, 2, 3, MAX}) {
-                refused += unlessTaken(state, "put(" + i + ", 77)", x -> x.put(i, 77), y -> y.put(i, 77));
-                refused += unlessTaken(state, "empty(" + i + ")", x -> x.empty(i), y -> y.empty(i));
-                refused += unlessTaken(state, "store(" + i + ")", x -> x.store(i), y -> y.store(i));
-                for (int place : new int[] {MIN, -1, 0, 1, 3, 7, 8, MAX}) {
-                    refused += unlessTaken(state, "set(" + i + ", " + place + ", 77)", x -> x.set(i, place, 77),
-                        y -> y.set(i, place, 77));
-                }
-            }
-            refused += unlessTaken(state, "drop()", VectorLanes::drop, Model::drop);
-            for (int kind = -1; kind <= 22; kind++) {
-                int k = kind;
-                for (int a : kind < Kinds.ADD ? new int[] {MIN, -100, -99, -1, 0, 1, 2, 3, 99, 100, MAX} : new int[] {0, 1}) {
-                    refused += unlessTaken(state, "token(" + k + ", " + a + ")", x -> x.token(k, a), y -> y.token(k, a));
-                }
-            }
+            int refused = refusedOfInputs(state) + refusedOfProgram(state);
             Due.is(state.name + ": refused calls were met (" + refused + ")", refused > 70 ? 1 : 0, 1);
         }
+    }
+
+    private static int refusedOfInputs(State state) {
+        int refused = 0;
+        for (int i : new int[] {MIN, -1, 0, 1, 2, 3, MAX}) {
+            refused += unlessTaken(state, "put(" + i + ", 77)", x -> x.put(i, 77), y -> y.put(i, 77));
+            refused += unlessTaken(state, "empty(" + i + ")", x -> x.empty(i), y -> y.empty(i));
+            refused += unlessTaken(state, "store(" + i + ")", x -> x.store(i), y -> y.store(i));
+            for (int place : new int[] {MIN, -1, 0, 1, 3, 7, 8, MAX}) {
+                String call = "set(" + i + ", " + place + ", 77)";
+                refused += unlessTaken(state, call, x -> x.set(i, place, 77), y -> y.set(i, place, 77));
+            }
+        }
+        return refused;
+    }
+
+    private static int refusedOfProgram(State state) {
+        int refused = unlessTaken(state, "drop()", VectorLanes::drop, Model::drop);
+        for (int kind = -1; kind <= 22; kind++) {
+            int k = kind;
+            for (int a : new int[] {MIN, -100, -99, -1, 0, 1, 2, 3, 99, 100, MAX}) {
+                String call = "token(" + kind + ", " + a + ")";
+                refused += unlessTaken(state, call, x -> x.token(k, a), y -> y.token(k, a));
+            }
+        }
+        return refused;
     }
 
     private interface ModelCall {
@@ -303,17 +308,41 @@ final class EdgesOfTermsTest {
         }
     }
 
+    /** Two calls to begin with, and then the same one up to the 512th. */
+    private static void sameCalls(String name, Twins.Call call, IntUnaryOperator want) {
+        VectorLanes x = new VectorLanes();
+        x.put(0, 3);
+        x.token(Kinds.INPUT, 0);
+        for (int k = 0; k < 510; k++) {
+            Due.is(name + ", call " + (k + 3), call.on(x), want.applyAsInt(k));
+        }
+    }
+
     private static void callsUpToTheLast() {
         Due.sentence("An object is used for at most 512 calls after it has been made");
         VectorLanes puts = new VectorLanes();
         VectorLanes tokens = new VectorLanes();
         for (int call = 0; call < 512; call++) {
-            int turn = call % 10;
-            Due.is("call " + call + " of puts", turn < 9 ? puts.put(1, call) : puts.empty(1), turn < 8 ? turn + 1 : turn < 9 ? -2 : 8);
+            int turn = call % 9;
+            int had = turn < 8 ? puts.put(1, call) : puts.empty(1);
+            Due.is("call " + call + " of puts", had, turn < 8 ? turn + 1 : 8);
             int step = call % 64;
-            int answer = step < 32 ? tokens.token(step == 0 ? Kinds.INPUT : Kinds.TURN, 0) : tokens.drop();
-            Due.is("call " + call + " of tokens", answer, step < 32 ? step + 1 : 63 - step);
+            int left = step < 32 ? tokens.token(step == 0 ? Kinds.INPUT : Kinds.TURN, 0) : tokens.drop();
+            Due.is("call " + call + " of tokens", left, step < 32 ? step + 1 : 63 - step);
         }
+        sameCalls("put", x -> x.put(0, 1), k -> k < 7 ? k + 2 : -2);
+        sameCalls("set", x -> x.set(0, 0, 1), k -> 1);
+        sameCalls("empty", x -> x.empty(0), k -> k < 1 ? 1 : 0);
+        sameCalls("store", x -> x.store(1), k -> 1);
+        sameCalls("token", x -> x.token(Kinds.TURN, 0), k -> k < 39 ? k + 2 : -2);
+        sameCalls("drop", VectorLanes::drop, k -> k < 1 ? 0 : -1);
+        sameCalls("clear", VectorLanes::clear, k -> k < 1 ? 1 : 0);
+        sameCalls("size", x -> x.size(0), k -> 1);
+        sameCalls("input", x -> x.input(0, 0), k -> 3);
+        sameCalls("sort", VectorLanes::sort, k -> 2);
+        sameCalls("length", VectorLanes::length, k -> 1);
+        sameCalls("result", x -> x.result(0), k -> 3);
+        sameCalls("mixture", VectorLanes::mixture, k -> 3);
         VectorLanes stores = new VectorLanes();
         stores.put(0, 0);
         Program.put(stores, "INPUT 0, EACH, ELEMENT 0, CONST 1, ADD, END");

@@ -6,24 +6,14 @@ final class EdgesOfTokenTest {
     private static final int[] THREE = {5, 6, 7};
 
     public static void main(String[] args) {
-        kinds();
-        operandOfConst();
-        operandOfInput();
-        operandOfElement();
-        operandOfOthers();
-        fortyTokens();
-        elementOfNoBlock();
-        takenExpressions();
-        takenSinceTheBlock();
-        endOfNoBlock();
-        endOfNotJustOne();
-        endOfNoNumber();
-        sixExpressions();
-        sixOfAllBlocks();
-        twoBlocks();
-        answers();
-        sixForThreeKindsAlone();
-        endTakesTheNumber();
+        Due.each(
+            EdgesOfTokenTest::kinds, EdgesOfTokenTest::operandOfConst, EdgesOfTokenTest::operandOfInput,
+            EdgesOfTokenTest::operandOfElement, EdgesOfTokenTest::operandOfOthers, EdgesOfTokenTest::fortyTokens,
+            EdgesOfTokenTest::elementOfNoBlock, EdgesOfTokenTest::takenExpressions,
+            EdgesOfTokenTest::takenSinceTheBlock, EdgesOfTokenTest::endOfNoBlock, EdgesOfTokenTest::endOfNotJustOne,
+            EdgesOfTokenTest::endOfNoNumber, EdgesOfTokenTest::sixExpressions, EdgesOfTokenTest::sixOfAllBlocks,
+            EdgesOfTokenTest::twoBlocks, EdgesOfTokenTest::answers, EdgesOfTokenTest::sixForThreeKindsAlone,
+            EdgesOfTokenTest::endTakesTheNumber);
         Due.end("EdgesOfTokenTest");
     }
 
@@ -37,6 +27,10 @@ final class EdgesOfTokenTest {
 
     private static void refused(String program, int kind, int a, int want) {
         Twins.refused("token(" + kind + ", " + a + ") after " + program, state(program), x -> x.token(kind, a), want);
+    }
+
+    private static void taken(String program, String word, int want) {
+        Due.is(word + " after " + program, Program.token(Program.of(program), word), want);
     }
 
     private static void refused(String program, String word, int want) {
@@ -106,7 +100,7 @@ final class EdgesOfTokenTest {
     private static void fortyTokens() {
         Due.sentence("There are 40 tokens: -2.");
         String before = "INPUT 1, " + Program.times(38, "TURN");
-        Due.is("the 40th", Program.token(Program.of(before), "TURN"), 40);
+        taken(before, "TURN", 40);
         for (int kind = 0; kind <= 21; kind++) {
             refused(before + ", TURN", kind, 0, -2);
         }
@@ -127,7 +121,7 @@ final class EdgesOfTokenTest {
             for (int a : new int[] {MIN, -2, -1, 0, 1, 2, 3, MAX}) {
                 if (a >= 0 && a < open[p].length) {
                     int count = Program.words(programs[p]).size() + 1;
-                    Due.is("ELEMENT " + a + " after " + programs[p], Program.of(programs[p]).token(Kinds.ELEMENT, a), count);
+                    taken(programs[p], "ELEMENT " + a, count);
                 } else {
                     refused(programs[p], Kinds.ELEMENT, a, -3);
                 }
@@ -137,8 +131,9 @@ final class EdgesOfTokenTest {
 
     private static final String[] STACKS = {
         "", "CONST 1", "INPUT 0", "CONST 1, CONST 2", "CONST 1, INPUT 0", "INPUT 0, CONST 1", "INPUT 0, INPUT 1",
-        "CONST 1, CONST 2, CONST 3", "CONST 1, CONST 2, INPUT 0", "CONST 1, INPUT 0, CONST 2", "CONST 1, INPUT 0, INPUT 1",
-        "INPUT 0, CONST 1, CONST 2", "INPUT 0, CONST 1, INPUT 0", "INPUT 0, INPUT 1, CONST 1", "INPUT 0, INPUT 1, INPUT 0",
+        "CONST 1, CONST 2, CONST 3", "CONST 1, CONST 2, INPUT 0", "CONST 1, INPUT 0, CONST 2",
+        "CONST 1, INPUT 0, INPUT 1", "INPUT 0, CONST 1, CONST 2", "INPUT 0, CONST 1, INPUT 0",
+        "INPUT 0, INPUT 1, CONST 1", "INPUT 0, INPUT 1, INPUT 0",
     };
 
     /** The sorts from the bottom of the stack up, n for a number, r for a row. */
@@ -156,7 +151,7 @@ final class EdgesOfTokenTest {
                 String program = begins + ", " + stack;
                 if (sorts(stack).endsWith(sorts(Program.needs(kind)))) {
                     int count = Program.words(program).size() + 1;
-                    Due.is(Program.name(kind) + " after " + program, Program.of(program).token(kind, 0), count);
+                    taken(program, Program.name(kind), count);
                 } else {
                     refused(program, kind, 0, -4);
                 }
@@ -170,14 +165,15 @@ final class EdgesOfTokenTest {
     }
 
     private static void takenSinceTheBlock() {
-        Due.sentence("The stack (since the innermost open block began) has not, at its top, the expressions that the token takes: -4");
+        Due.sentence("The stack (since the innermost open block began) has not, at its top, "
+            + "the expressions that the token takes: -4");
         onEachStack("INPUT 0, INPUT 1, EACH");
         onEachStack("CONST 1, CONST 2, INPUT 1, EACH");
         onEachStack("INPUT 0, CONST 2, INPUT 1, KEEP");
         refused("INPUT 0, EACH, CONST 1, CONST 2, INPUT 1, KEEP, CONST 3", "ADD", -4);
         refused("INPUT 0, EACH, INPUT 0, INPUT 1, KEEP, INPUT 0", "JOIN", -4);
         refused("INPUT 0, EACH, INPUT 0, INPUT 1, KEEP", "EACH", -4);
-        Due.is("after the inner block ended", Program.token(Program.of("INPUT 0, EACH, INPUT 0, INPUT 1, KEEP, CONST 3, END"), "JOIN"), 8);
+        taken("INPUT 0, EACH, INPUT 0, INPUT 1, KEEP, CONST 3, END", "JOIN", 8);
     }
 
     private static void endOfNoBlock() {
@@ -186,7 +182,7 @@ final class EdgesOfTokenTest {
             "INPUT 0, EACH, CONST 1, END, SUM"}) {
             refused(program, "END", -4);
         }
-        Due.is("a block is open", Program.token(Program.of("INPUT 0, EACH, CONST 1"), "END"), 4);
+        taken("INPUT 0, EACH, CONST 1", "END", 4);
     }
 
     private static void endOfNotJustOne() {
@@ -197,7 +193,7 @@ final class EdgesOfTokenTest {
             refused(begins + ", CONST 1, CONST 2", "END", -4);
             refused(begins + ", INPUT 0, CONST 2", "END", -4);
             refused(begins + ", CONST 1, CONST 2, CONST 3", "END", -4);
-            Due.is("just one", Program.token(Program.of(begins + ", CONST 1"), "END"), Program.words(begins).size() + 2);
+            taken(begins + ", CONST 1", "END", Program.words(begins).size() + 2);
         }
     }
 
@@ -206,7 +202,7 @@ final class EdgesOfTokenTest {
         for (String begins : new String[] {"INPUT 0, EACH", "CONST 4, INPUT 0, KEEP", "INPUT 0, EACH, INPUT 0, KEEP"}) {
             refused(begins + ", INPUT 0", "END", -4);
             refused(begins + ", CONST 1, UPTO", "END", -4);
-            Due.is("a number", Program.token(Program.of(begins + ", INPUT 0, SUM"), "END"), Program.words(begins).size() + 3);
+            taken(begins + ", INPUT 0, SUM", "END", Program.words(begins).size() + 3);
         }
         refused("INPUT 0, EACH, INPUT 0, KEEP, CONST 1, END", "END", -4);
     }
@@ -216,14 +212,14 @@ final class EdgesOfTokenTest {
         for (String word : new String[] {"CONST 1", "INPUT 1"}) {
             String five = Program.times(5, word);
             String six = Program.times(6, word);
-            Due.is("CONST as the sixth", Program.token(Program.of(five), "CONST 1"), 6);
-            Due.is("INPUT as the sixth", Program.token(Program.of(five), "INPUT 1"), 6);
+            taken(five, "CONST 1", 6);
+            taken(five, "INPUT 1", 6);
             refused(six, "CONST 1", -5);
             refused(six, "INPUT 1", -5);
             refused(six, "ELEMENT 0", -3);
         }
         String inBlock = "INPUT 0, EACH, " + Program.times(5, "ELEMENT 0");
-        Due.is("ELEMENT as the sixth", Program.token(Program.of(inBlock), "ELEMENT 0"), 8);
+        taken(inBlock, "ELEMENT 0", 8);
         refused(inBlock + ", CONST 1", "ELEMENT 0", -5);
         VectorLanes x = Program.of(Program.times(6, "CONST 1") + ", ADD");
         Due.is("once two were added up", Program.token(x, "CONST 1"), 8);
@@ -242,12 +238,13 @@ final class EdgesOfTokenTest {
         for (String five : fives) {
             int count = Program.words(five).size() + 1;
             for (String word : new String[] {"CONST 6", "INPUT 1", "ELEMENT 0"}) {
-                Due.is(word + " as the sixth after " + five, Program.token(Program.of(five), word), count);
+                taken(five, word, count);
                 refused(five + ", CONST 6", word, -5);
                 refused(five + ", INPUT 1", word, -5);
             }
         }
-        refused("CONST 1, CONST 2, CONST 3, CONST 4, INPUT 0, EACH, CONST 5, INPUT 1, EACH, ELEMENT 1", "ELEMENT 1", -5);
+        String six = "CONST 1, CONST 2, CONST 3, CONST 4, INPUT 0, EACH, CONST 5, INPUT 1, EACH, ELEMENT 1";
+        refused(six, "ELEMENT 1", -5);
     }
 
     private static void twoBlocks() {
@@ -257,9 +254,9 @@ final class EdgesOfTokenTest {
                 for (String other : new String[] {"EACH", "KEEP"}) {
                     String two = "INPUT 0, " + one + ", INPUT 1, " + other + ", INPUT 0";
                     refused(two, kind, -5);
-                    Due.is("in one block", Program.token(Program.of("INPUT 0, " + one + ", INPUT 1"), kind), 4);
-                    Due.is("after the inner one", Program.token(Program.of(two + ", SUM, END"), kind), 8);
-                    Due.is("after both", Program.token(Program.of(two + ", SUM, END, SUM, END"), kind), 10);
+                    taken("INPUT 0, " + one + ", INPUT 1", kind, 4);
+                    taken(two + ", SUM, END", kind, 8);
+                    taken(two + ", SUM, END, SUM, END", kind, 10);
                 }
             }
             refused("INPUT 0, EACH, INPUT 1, EACH, CONST 1", kind, -4);
@@ -303,13 +300,14 @@ final class EdgesOfTokenTest {
 
     private static void endTakesTheNumber() {
         Due.sentence("Promise 15: END takes the number that stands there.");
-        VectorLanes x = Program.of("CONST 1, CONST 2, CONST 3, CONST 4, CONST 5, INPUT 0, EACH, ELEMENT 0", THREE);
+        String five = "CONST 1, CONST 2, CONST 3, CONST 4, CONST 5, ";
+        VectorLanes x = Program.of(five + "INPUT 0, EACH, ELEMENT 0", THREE);
         Due.is("six expressions", Program.token(x, "CONST 1"), -5);
         Due.is("END on six", Program.token(x, "END"), 9);
         Due.is("six expressions still", Program.token(x, "CONST 1"), -5);
         Program.put(x, "SUM, ADD, ADD, ADD, ADD, ADD");
         Due.number("the row stands in its place", x, 33);
-        VectorLanes y = Program.of("CONST 1, CONST 2, CONST 3, CONST 4, CONST 5, INPUT 0, KEEP, INPUT 0, EACH, ELEMENT 1", THREE);
+        VectorLanes y = Program.of(five + "INPUT 0, KEEP, INPUT 0, EACH, ELEMENT 1", THREE);
         Due.is("END of the inner block on six", Program.token(y, "END"), 11);
         Due.is("six expressions still", Program.token(y, "ELEMENT 0"), -5);
         Due.is("a row can't end the outer one", Program.token(y, "END"), -4);

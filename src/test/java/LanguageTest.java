@@ -26,7 +26,6 @@ final class LanguageTest extends TreeScanner<Void, Void> {
     private final Set<String> methods = new TreeSet<>();
     private final Set<String> constants = new TreeSet<>();
     private final Set<String> arrayFields = new TreeSet<>();
-    private final Set<String> publicMethods = new TreeSet<>();
     private final CompilationUnitTree unit;
     private final SourcePositions positions;
     private String method = "";
@@ -65,13 +64,14 @@ final class LanguageTest extends TreeScanner<Void, Void> {
         breach(1, !face.getSimpleName().contentEquals("VectorLanes"), face, "another name");
         Set<Modifier> flags = face.getModifiers().getFlags();
         breach(1, !flags.equals(Set.of(Modifier.PUBLIC, Modifier.FINAL)), face, "not public and final");
-        breach(1, face.getExtendsClause() != null || !face.getImplementsClause().isEmpty(), face, "another type above it");
+        breach(1, face.getExtendsClause() != null, face, "a class above it");
+        breach(1, !face.getImplementsClause().isEmpty(), face, "an interface above it");
         for (Tree member : face.getMembers()) {
             enter(member);
         }
         scan(face, null);
         breach(10, fields > 40, face, fields + " fields");
-        for (String name : publicMethods) {
+        for (String name : methods) {
             lookAtDepth(name, List.of());
         }
     }
@@ -82,11 +82,8 @@ final class LanguageTest extends TreeScanner<Void, Void> {
             String name = m.getName().toString();
             methods.add(name);
             Set<Modifier> flags = m.getModifiers().getFlags();
-            boolean isPublic = flags.contains(Modifier.PUBLIC);
-            breach(1, !isPublic && !flags.contains(Modifier.PRIVATE), m, name + " is neither public nor private");
-            if (isPublic) {
-                publicMethods.add(name);
-            }
+            boolean plain = flags.contains(Modifier.PUBLIC) || flags.contains(Modifier.PRIVATE);
+            breach(1, !plain, m, name + " is neither public nor private");
         } else if (member instanceof VariableTree) {
             enterField((VariableTree) member);
         } else {
@@ -208,7 +205,8 @@ final class LanguageTest extends TreeScanner<Void, Void> {
         breach(4, !method.isEmpty(), t, "an array made in " + method);
         breach(4, t.getInitializers() != null || t.getDimensions().size() != 1, t, "an array without one length");
         for (ExpressionTree length : t.getDimensions()) {
-            breach(4, !(length instanceof LiteralTree) && !constants.contains(length.toString()), t, "length " + length);
+            boolean fixed = length instanceof LiteralTree || constants.contains(length.toString());
+            breach(4, !fixed, t, "length " + length);
         }
         return super.visitNewArray(t, p);
     }

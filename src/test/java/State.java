@@ -34,8 +34,10 @@ final class State {
         new State("40 tokens, a row", SOME, "INPUT 2, " + Program.times(38, "TURN") + ", SCAN"),
         new State("40 tokens, six expressions", SOME,
             "CONST 1, CONST 2, INPUT 1, INPUT 2, INPUT 2, CONST 5, " + Program.times(17, "UPTO, LENGTH")),
-        new State("40 tokens, two blocks", SOME, TWO_BLOCKS + ", ELEMENT 1, " + Program.times(17, "UPTO, MOST") + ", UPTO"),
-        new State("40 tokens, a block to be ended", SOME, "INPUT 2, EACH, INPUT 1, " + Program.times(36, "TURN") + ", SUM"),
+        new State("40 tokens, two blocks", SOME,
+            TWO_BLOCKS + ", ELEMENT 1, " + Program.times(17, "UPTO, MOST") + ", UPTO"),
+        new State("40 tokens, a block to be ended", SOME,
+            "INPUT 2, EACH, INPUT 1, " + Program.times(36, "TURN") + ", SUM"),
     };
 
     final String name;

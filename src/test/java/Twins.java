@@ -19,8 +19,8 @@ final class Twins {
     }
 
     private static final String[] LOOK_NAMES = {
-        "the questions", "tokens that could follow", "drops", "clear and what fits after it", "an ending of the program",
-        "puts, sets and empties", "stores",
+        "the questions", "tokens that could follow", "drops", "clear and what fits after it",
+        "an ending of the program", "puts, sets and empties", "stores",
     };
     private static final Look[] LOOKS = {
         Twins::questions, Twins::nextTokens, Twins::drops, Twins::clearing, Twins::ending, Twins::inputs, Twins::stores,
@@ -42,10 +42,18 @@ final class Twins {
         for (int k = 0; k < LOOKS.length; k++) {
             List<Integer> wanted = seen(LOOKS[k], one);
             List<Integer> got = seen(LOOKS[k], other);
-            boolean same = got.equals(wanted);
-            String told = same ? "" : " show " + got + " instead of " + wanted + ": alike";
-            Due.is(what + ", " + LOOK_NAMES[k] + told, same ? 1 : 0, 1);
+            int at = firstDifference(got, wanted);
+            Due.is(what + ", " + LOOK_NAMES[k] + ": the first answer that differs", at, -1);
         }
+    }
+
+    private static int firstDifference(List<Integer> got, List<Integer> wanted) {
+        for (int k = 0; k < got.size() && k < wanted.size(); k++) {
+            if (!got.get(k).equals(wanted.get(k))) {
+                return k;
+            }
+        }
+        return got.size() == wanted.size() ? -1 : Math.min(got.size(), wanted.size());
     }
 
     private static List<Integer> seen(Look look, Calls calls) {
@@ -90,10 +98,8 @@ final class Twins {
     }
 
     private static void drops(VectorLanes x, List<Integer> seen) {
-        int left = 1;
-        while (left >= 0) {
-            left = x.drop();
-            seen.add(left);
+        for (int t = 0; t < 41; t++) {
+            seen.add(x.drop());
             seen.add(x.sort());
             seen.add(x.length());
             seen.add(x.mixture());
