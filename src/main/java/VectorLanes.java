@@ -209,8 +209,9 @@ public final class VectorLanes {
             return 0;
         }
         workOut();
+        int count = valueSizes[0];
         int sum = 0;
-        for (int p = 0; p < valueSizes[0]; p++) {
+        for (int p = 0; p < count; p++) {
             sum += valueCells[p] * (p + 1);
         }
         return sum;
@@ -342,16 +343,20 @@ public final class VectorLanes {
     }
 
     // A token forgets what it took, so the stack before it is found by going through the others.
+    // All of them fitted when they were put, and so fit now.
     private void rebuildSorts() {
+        int count = tokenCount;
         sortCount = 0;
         openBlocks = 0;
-        for (int t = 0; t < tokenCount; t++) {
+        for (int t = 0; t < count; t++) {
             changeSorts(kinds[t]);
         }
     }
 
-    // Only for a whole program: the checks made at token() are why no stack here runs over or dry.
-    // The result is then at place 0 of the values.
+    // Only for a whole program; the result is then at place 0 of the values.
+    // The indices are looked at in token(): what is put and taken here follows the sorts that were looked at there,
+    // pass by pass, so the values are never fewer than a token takes nor more than STACK_ROOM, and a lane is open
+    // just where its block is. A row's size is that of an input or of a lane, or is cut at ROW_ROOM where it is made.
     private void workOut() {
         valueCount = 0;
         laneCount = 0;
@@ -426,10 +431,11 @@ public final class VectorLanes {
     private void pushInput(int i) {
         int to = valueCount * ROW_ROOM;
         int from = i * ROW_ROOM;
-        for (int p = 0; p < inputSizes[i]; p++) {
+        int count = inputSizes[i];
+        for (int p = 0; p < count; p++) {
             valueCells[to + p] = inputCells[from + p];
         }
-        valueSizes[valueCount] = inputSizes[i];
+        valueSizes[valueCount] = count;
         valueCount++;
     }
 
@@ -539,7 +545,8 @@ public final class VectorLanes {
         int count = valueSizes[first];
         int to = first * ROW_ROOM;
         int from = valueCount * ROW_ROOM;
-        for (int p = 0; p < valueSizes[valueCount] && count < ROW_ROOM; p++) {
+        int more = valueSizes[valueCount];
+        for (int p = 0; p < more && count < ROW_ROOM; p++) {
             valueCells[to + count] = valueCells[from + p];
             count++;
         }
@@ -548,11 +555,11 @@ public final class VectorLanes {
 
     private void turnTop() {
         int top = valueCount - 1;
-        int low = top * ROW_ROOM;
-        int high = low + valueSizes[top] - 1;
-        for (; low < high; low++) {
-            swapCells(low, high);
-            high--;
+        int first = top * ROW_ROOM;
+        int last = first + valueSizes[top] - 1;
+        int half = valueSizes[top] / 2;
+        for (int p = 0; p < half; p++) {
+            swapCells(first + p, last - p);
         }
     }
 
@@ -565,7 +572,8 @@ public final class VectorLanes {
     private void scanTop() {
         int top = valueCount - 1;
         int from = top * ROW_ROOM;
-        for (int p = 1; p < valueSizes[top]; p++) {
+        int count = valueSizes[top];
+        for (int p = 1; p < count; p++) {
             valueCells[from + p] += valueCells[from + p - 1];
         }
     }
@@ -603,9 +611,10 @@ public final class VectorLanes {
     }
 
     private void skipBlock() {
+        int count = tokenCount;
         int open = 1;
         int t = nextToken;
-        for (; t < tokenCount && open > 0; t++) {
+        for (; t < count && open > 0; t++) {
             if (beginsBlock(kinds[t])) {
                 open++;
             } else if (kinds[t] == END) {
@@ -639,10 +648,11 @@ public final class VectorLanes {
 
     private void endLane(int lane) {
         int to = valueCount * ROW_ROOM;
-        for (int p = 0; p < madeSizes[lane]; p++) {
+        int count = madeSizes[lane];
+        for (int p = 0; p < count; p++) {
             valueCells[to + p] = madeCells[lane * ROW_ROOM + p];
         }
-        valueSizes[valueCount] = madeSizes[lane];
+        valueSizes[valueCount] = count;
         valueCount++;
         laneCount--;
     }

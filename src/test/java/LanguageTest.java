@@ -16,16 +16,21 @@ import javax.tools.JavaCompiler;
 import javax.tools.StandardJavaFileManager;
 import javax.tools.ToolProvider;
 
-/** What can be seen of LANGUAGE.md in the source of the class; AnyCallTest looks at rules 7 and 11 by calls. */
+/**
+ * What can be seen of LANGUAGE.md in the source of the class: of rule 7 the divisors alone. AnyCallTest and EveryStackTest
+ * look at rules 7 and 11 by calls.
+ */
 final class LanguageTest extends TreeScanner<Void, Void> {
     private static final String SOURCE = "src/main/java/VectorLanes.java";
-    private static final int[] RULES = {1, 2, 3, 4, 5, 6, 8, 10};
+    private static final int[] RULES = {1, 2, 3, 4, 5, 6, 7, 8, 10};
 
     private final Map<Integer, List<String>> breaches = new HashMap<>();
     private final Map<String, Set<String>> calls = new HashMap<>();
     private final Set<String> methods = new TreeSet<>();
     private final Set<String> constants = new TreeSet<>();
     private final Set<String> arrayFields = new TreeSet<>();
+    private final Set<String> changingFields = new TreeSet<>();
+    private final List<String> divisorsThatAreNot0 = new ArrayList<>();
     private final CompilationUnitTree unit;
     private final SourcePositions positions;
     private String method = "";
@@ -102,6 +107,7 @@ final class LanguageTest extends TreeScanner<Void, Void> {
             return;
         }
         fields++;
+        changingFields.add(name);
         if (f.getType() instanceof ArrayTypeTree) {
             arrayFields.add(name);
             breach(4, !flags.contains(Modifier.FINAL), f, name + " could be assigned to");
@@ -229,27 +235,120 @@ final class LanguageTest extends TreeScanner<Void, Void> {
         return super.visitTypeCast(t, p);
     }
 
-    private void lookAtLoop(Tree loop, ExpressionTree condition) {
-        breach(8, condition == null || !condition.toString().matches(".*[<>].*"), loop, "a loop without a bound");
-    }
-
+    /** The class keeps to for loops with a counter: of these it can be seen here that they end. */
     @Override
     public Void visitForLoop(ForLoopTree t, Void p) {
-        lookAtLoop(t, t.getCondition());
-        breach(8, t.getUpdate().isEmpty(), t, "a for loop without a counter");
+        boolean counts = t.getUpdate().size() == 1 && t.getUpdate().get(0).getExpression() instanceof UnaryTree;
+        breach(8, !counts, t, "a for loop without one counter");
+        if (counts) {
+            UnaryTree step = (UnaryTree) t.getUpdate().get(0).getExpression();
+            breach(8, !runsAgainstBound(t, step), t, "the end of the loop can't be seen: " + t.getCondition());
+        }
         return super.visitForLoop(t, p);
+    }
+
+    private boolean runsAgainstBound(ForLoopTree loop, UnaryTree step) {
+        boolean rises = step.getKind().toString().endsWith("INCREMENT");
+        String counter = step.getExpression().toString();
+        for (BinaryTree part : comparisons(loop.getCondition())) {
+            boolean against = part.getKind() == (rises ? Tree.Kind.LESS_THAN : Tree.Kind.GREATER_THAN)
+                && part.getLeftOperand().toString().equals(counter);
+            String bound = part.getRightOperand().toString();
+            boolean stays = bound.matches("\\w+") && !changingFields.contains(bound);
+            if (against && stays && !changingFields.contains(counter) && !assigns(loop.getStatement(), counter, bound)) {
+                return true;
+            }
+        }
+        return false;
+    }
+
+    /** The comparisons that must all hold for the loop to go on. */
+    private static List<BinaryTree> comparisons(ExpressionTree condition) {
+        List<BinaryTree> found = new ArrayList<>();
+        if (condition instanceof BinaryTree) {
+            BinaryTree both = (BinaryTree) condition;
+            if (both.getKind() == Tree.Kind.CONDITIONAL_AND) {
+                found.addAll(comparisons(both.getLeftOperand()));
+                found.addAll(comparisons(both.getRightOperand()));
+            } else {
+                found.add(both);
+            }
+        }
+        return found;
+    }
+
+    private static boolean assigns(Tree body, String one, String other) {
+        boolean[] found = {false};
+        new TreeScanner<Void, Void>() {
+            private void assigned(ExpressionTree variable) {
+                String name = variable.toString();
+                found[0] |= name.equals(one) || name.equals(other);
+            }
+
+            @Override
+            public Void visitAssignment(AssignmentTree t, Void p) {
+                assigned(t.getVariable());
+                return super.visitAssignment(t, p);
+            }
+
+            @Override
+            public Void visitCompoundAssignment(CompoundAssignmentTree t, Void p) {
+                assigned(t.getVariable());
+                return super.visitCompoundAssignment(t, p);
+            }
+
+            @Override
+            public Void visitUnary(UnaryTree t, Void p) {
+                if (t.getKind().toString().endsWith("CREMENT")) {
+                    assigned(t.getExpression());
+                }
+                return super.visitUnary(t, p);
+            }
+        }.scan(body, null);
+        return found[0];
     }
 
     @Override
     public Void visitWhileLoop(WhileLoopTree t, Void p) {
-        lookAtLoop(t, t.getCondition());
+        breach(8, true, t, "a while loop");
         return super.visitWhileLoop(t, p);
     }
 
     @Override
     public Void visitDoWhileLoop(DoWhileLoopTree t, Void p) {
-        lookAtLoop(t, t.getCondition());
+        breach(8, true, t, "a do loop");
         return super.visitDoWhileLoop(t, p);
+    }
+
+    /** A divisor is looked at by "m == 0 ? .. : n / m", or is a number other than 0. */
+    @Override
+    public Void visitConditionalExpression(ConditionalExpressionTree t, Void p) {
+        String condition = t.getCondition().toString().replaceAll("[()]", "");
+        scan(t.getCondition(), p);
+        scan(t.getTrueExpression(), p);
+        divisorsThatAreNot0.add(condition.endsWith(" == 0") ? condition.replace(" == 0", "") : "");
+        scan(t.getFalseExpression(), p);
+        divisorsThatAreNot0.remove(divisorsThatAreNot0.size() - 1);
+        return null;
+    }
+
+    private void lookAtDivisor(Tree division, ExpressionTree divisor) {
+        if (division.getKind().toString().matches("(DIVIDE|REMAINDER).*")) {
+            boolean not0 = divisor.toString().matches("[1-9][0-9]*") || divisorsThatAreNot0.contains(divisor.toString());
+            breach(7, !not0, division, "a divisor that is not looked at: " + division);
+        }
+    }
+
+    @Override
+    public Void visitBinary(BinaryTree t, Void p) {
+        lookAtDivisor(t, t.getRightOperand());
+        return super.visitBinary(t, p);
+    }
+
+    @Override
+    public Void visitCompoundAssignment(CompoundAssignmentTree t, Void p) {
+        lookAtDivisor(t, t.getExpression());
+        return super.visitCompoundAssignment(t, p);
     }
 
     @Override
