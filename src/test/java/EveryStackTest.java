@@ -25,7 +25,8 @@ final class EveryStackTest {
     }
 
     private static void everyTokenOnEveryStack() {
-        Due.sentence("LANGUAGE.md, rule 7: No call may ever throw .. in any state: an index is looked at before it is used");
+        Due.sentence("LANGUAGE.md, rule 7: No call may ever throw .. in any state: "
+            + "an index is looked at before it is used");
         for (int height = 0; height <= HEIGHT; height++) {
             for (int rows = 0; rows < 1 << height; rows++) {
                 onEachChoiceOfBlocks(height, rows);

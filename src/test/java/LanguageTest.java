@@ -17,8 +17,8 @@ import javax.tools.StandardJavaFileManager;
 import javax.tools.ToolProvider;
 
 /**
- * What can be seen of LANGUAGE.md in the source of the class: of rule 7 the divisors alone. AnyCallTest and EveryStackTest
- * look at rules 7 and 11 by calls.
+ * What can be seen of LANGUAGE.md in the source of the class: of rule 7 the divisors alone. AnyCallTest and
+ * EveryStackTest look at rules 7 and 11 by calls.
  */
 final class LanguageTest extends TreeScanner<Void, Void> {
     private static final String SOURCE = "src/main/java/VectorLanes.java";
@@ -254,8 +254,8 @@ final class LanguageTest extends TreeScanner<Void, Void> {
             boolean against = part.getKind() == (rises ? Tree.Kind.LESS_THAN : Tree.Kind.GREATER_THAN)
                 && part.getLeftOperand().toString().equals(counter);
             String bound = part.getRightOperand().toString();
-            boolean stays = bound.matches("\\w+") && !changingFields.contains(bound);
-            if (against && stays && !changingFields.contains(counter) && !assigns(loop.getStatement(), counter, bound)) {
+            boolean local = bound.matches("\\w+") && !changingFields.contains(bound) && !changingFields.contains(counter);
+            if (against && local && !assigns(loop.getStatement(), counter, bound)) {
                 return true;
             }
         }
@@ -334,7 +334,8 @@ final class LanguageTest extends TreeScanner<Void, Void> {
 
     private void lookAtDivisor(Tree division, ExpressionTree divisor) {
         if (division.getKind().toString().matches("(DIVIDE|REMAINDER).*")) {
-            boolean not0 = divisor.toString().matches("[1-9][0-9]*") || divisorsThatAreNot0.contains(divisor.toString());
+            String name = divisor.toString();
+            boolean not0 = name.matches("[1-9][0-9]*") || divisorsThatAreNot0.contains(name);
             breach(7, !not0, division, "a divisor that is not looked at: " + division);
         }
     }
